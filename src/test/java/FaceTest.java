@@ -1,0 +1,107 @@
+import java.lang.reflect.Constructor;
+import java.lang.reflect.Field;
+import java.lang.reflect.Method;
+import java.lang.reflect.Modifier;
+import java.nio.file.Files;
+import java.nio.file.Path;
+import java.util.Arrays;
+import java.util.Set;
+import java.util.TreeSet;
+import java.util.regex.Matcher;
+import java.util.regex.Pattern;
+
+/** The public face as the document tells it, and what LANGUAGE.md rules out, as far as a look can tell. */
+public final class FaceTest {
+    private static final Check check = new Check();
+
+    public static void main(String[] args) throws Exception {
+        Path project = Path.of(args.length > 0 ? args[0] : ".");
+        String document = Files.readString(project.resolve("../shared/DOC.md"));
+        String source = Files.readString(project.resolve("src/main/java/GloveRegret.java"));
+        constants();
+        methods(document);
+        othersArePrivate();
+        language(source);
+        check.end();
+    }
+
+    private static void constants() {
+        check.due("BAD", GloveRegret.BAD, -1);
+        check.due("NOT", GloveRegret.NOT, -2);
+        check.due("FULL", GloveRegret.FULL, -3);
+        check.due("STATE", GloveRegret.STATE, -5);
+        check.due("VOID", GloveRegret.VOID, -2000000000);
+    }
+
+    private static void methods(String document) {
+        Set<String> told = new TreeSet<>();
+        Matcher lines = Pattern.compile("    public (int|long) (\\w+)\\(([^)]*)\\);").matcher(document);
+        while (lines.find()) {
+            told.add(lines.group(1) + " " + lines.group(2) + lines.group(3).replaceAll(" \\w+(,|$)", "$1"));
+        }
+        Set<String> have = new TreeSet<>();
+        for (Method method : GloveRegret.class.getDeclaredMethods()) {
+            if (Modifier.isPublic(method.getModifiers())) {
+                String types = Arrays.toString(method.getParameterTypes()).replaceAll("[\\[\\]]", "");
+                have.add(method.getReturnType() + " " + method.getName() + types);
+            }
+        }
+        check.due("how many methods the document tells", told.size(), 41);
+        check.due("the methods are " + have + ", told are " + told, have.equals(told) ? 1 : 0, 1);
+        Constructor<?>[] constructors = GloveRegret.class.getDeclaredConstructors();
+        check.due("one constructor", constructors.length, 1);
+        check.due("it is public", Modifier.isPublic(constructors[0].getModifiers()) ? 1 : 0, 1);
+        check.due("without parameters", constructors[0].getParameterCount(), 0);
+    }
+
+    private static void othersArePrivate() {
+        Set<String> face = new TreeSet<>();
+        for (Method method : GloveRegret.class.getDeclaredMethods()) {
+            if (Modifier.isPublic(method.getModifiers())) {
+                face.add(method.getName());
+            } else {
+                check.due(method + " is private", Modifier.isPrivate(method.getModifiers()) ? 1 : 0, 1);
+            }
+        }
+        Set<String> constants = Set.of("BAD", "NOT", "FULL", "STATE", "VOID");
+        for (Field field : GloveRegret.class.getDeclaredFields()) {
+            boolean isRight = constants.contains(field.getName())
+                ? Modifier.isPublic(field.getModifiers()) : Modifier.isPrivate(field.getModifiers());
+            check.due(field + " is as it should be", isRight ? 1 : 0, 1);
+        }
+        Class<?>[] inside = GloveRegret.class.getDeclaredClasses();
+        check.due("some twelve classes at most", inside.length <= 11 ? 1 : 0, 1);
+        for (Class<?> one : inside) {
+            check.due(one + " is static", Modifier.isStatic(one.getModifiers()) ? 1 : 0, 1);
+            check.due(one + " is not public", Modifier.isPublic(one.getModifiers()) ? 1 : 0, 0);
+            check.due(one + " has some twenty fields at most", objectFields(one) <= 20 ? 1 : 0, 1);
+            for (Method method : one.getDeclaredMethods()) {
+                check.due(method + " bears no name of the face", face.contains(method.getName()) ? 1 : 0, 0);
+                check.due(method + " takes seven at most", method.getParameterCount() <= 7 ? 1 : 0, 1);
+            }
+        }
+    }
+
+    private static int objectFields(Class<?> one) {
+        int fields = 0;
+        for (Field field : one.getDeclaredFields()) {
+            fields += Modifier.isStatic(field.getModifiers()) ? 0 : 1;
+        }
+        return fields;
+    }
+
+    private static void language(String source) {
+        String code = source.replaceAll("(?s)/\\*.*?\\*/", "").replaceAll("//[^\n]*", "");
+        String[] never = {"\\bthrow\\b", "\\btry\\b", "\\bcatch\\b", "\\bsynchronized\\b", "\\bassert\\b", "->", "::",
+            "\\bimport\\b", "\\bpackage\\b", "\\bprotected\\b", "Exact\\b", "\\bSystem\\.(?!arraycopy)", "\\bRandom\\b",
+            "\\bThread\\b", "\\bString\\b", "\\bvar\\b", "\\bhashCode\\b", "\\btoString\\b", "\\bwhile\\b", "\\bdo\\b"};
+        for (String word : never) {
+            check.due("not in the source: " + word, Pattern.compile(word).matcher(code).find() ? 1 : 0, 0);
+        }
+        for (int i = 0; i < source.length(); i++) {
+            if (source.charAt(i) > 126) {
+                check.due("a sign above 126 at " + i, 1, 0);
+            }
+        }
+    }
+}
