@@ -334,8 +334,17 @@ public final class GloveRegret {
                 || !isChoiceOfTwo(what)) {
             return VOID;
         }
-        turns.play(one, other, n);
-        return what == 0 ? turns.aheadBy : turns.firstWay;
+        turns.begin(one, other);
+        int firstWay = Turns.AS_HE_DOES;
+        int aheadBy = turns.best(tray.looks[one], tray.looks[other], n - 1, false);
+        for (int way = 0; way < Turns.AS_HE_DOES; way++) {
+            int ahead = turns.best(Turns.afterTurn(tray.looks[one], way), tray.looks[other], n - 1, false);
+            if (ahead > aheadBy) {
+                aheadBy = ahead;
+                firstWay = way;
+            }
+        }
+        return what == 0 ? aheadBy : firstWay;
     }
 
     public int drawn(int seed, int nmw, int guest) {
@@ -932,7 +941,24 @@ public final class GloveRegret {
             if (!tray.hasGuest(g)) {
                 return 0;
             }
-            int worth = size == 0 ? worthWithoutText(tray, g) : worthByText(tray, g);
+            int worth = size == 0 ? worthWithoutText(tray, g) : 0;
+            boolean isCounted = false;
+            stacked = 0;
+            for (int i = 0; i < size && !isCounted; i++) {
+                int piece = code[i];
+                if (piece >= 0) {
+                    push(piece);
+                } else if (LawText.isName(-piece)) {
+                    push(worthOfName(-piece, tray, g));
+                } else if (piece != -';') {
+                    workOut(-piece);
+                } else {
+                    int last = pop();
+                    // a LINE without a first E leaves nothing but its worth
+                    isCounted = stacked == 0 || pop() != 0;
+                    worth = isCounted ? last : 0;
+                }
+            }
             return Math.max(0, Math.min(MOST_REGRET, worth));
         }
 
@@ -971,27 +997,6 @@ public final class GloveRegret {
 
         private static int worthWithoutText(Tray tray, int g) {
             return tray.regret[g] + 2 * tray.looks[g] - (tray.hand[g] == 0 ? 5 : 0);
-        }
-
-        private int worthByText(Tray tray, int g) {
-            stacked = 0;
-            for (int i = 0; i < size; i++) {
-                int piece = code[i];
-                if (piece >= 0) {
-                    push(piece);
-                } else if (piece == -';') {
-                    int worth = pop();
-                    // a LINE without a first E leaves nothing but its worth
-                    if (stacked == 0 || pop() != 0) {
-                        return worth;
-                    }
-                } else if (LawText.isName(-piece)) {
-                    push(worthOfName(-piece, tray, g));
-                } else {
-                    workOut(-piece);
-                }
-            }
-            return 0;
         }
 
         private static int worthOfName(int name, Tray tray, int g) {
@@ -1144,7 +1149,7 @@ public final class GloveRegret {
 
     /** Two who look sorry BY TURNS. */
     private static final class Turns {
-        static final int MOST_TIMES = 5, WAYS = 3, AS_HE_DOES = 2;
+        static final int MOST_TIMES = 5, AS_HE_DOES = 2;
         private static final int DIFFERENT_LOOKS = MOST_LOOKS + 1;
 
         private final Thought thought;
@@ -1152,45 +1157,33 @@ public final class GloveRegret {
         private int other = 0;
         /** By the LOOKS of both: many turns end alike, and an end is dear to work out. VOID: not yet. */
         private final int[] ends = new int[DIFFERENT_LOOKS * DIFFERENT_LOOKS];
-        int aheadBy = 0;
-        int firstWay = AS_HE_DOES;
 
         Turns(Thought thought) {
             this.thought = thought;
         }
 
-        void play(int theOne, int theOther, int times) {
+        void begin(int theOne, int theOther) {
             one = theOne;
             other = theOther;
             for (int i = 0; i < ends.length; i++) {
                 ends[i] = VOID;
             }
-            int oneLooks = thought.real.looks[one];
-            int otherLooks = thought.real.looks[other];
-            firstWay = AS_HE_DOES;
-            aheadBy = best(oneLooks, otherLooks, times - 1, false);
-            for (int way = 0; way < AS_HE_DOES; way++) {
-                int ahead = best(afterTurn(oneLooks, way), otherLooks, times - 1, false);
-                if (ahead > aheadBy) {
-                    aheadBy = ahead;
-                    firstWay = way;
-                }
-            }
         }
 
+        /** By how many MINUTES the one is ahead, if both do their best from here on. */
         private int best(int oneLooks, int otherLooks, int timesMore, boolean isOnesTurn) {
             if (timesMore <= 0) {
                 return endOf(oneLooks, otherLooks);
             }
-            int best = isOnesTurn ? -MOST_GUESTS : MOST_GUESTS;
-            for (int way = 0; way < WAYS; way++) {
+            int ahead = isOnesTurn ? -MOST_GUESTS : MOST_GUESTS;
+            for (int way = 0; way <= AS_HE_DOES; way++) {
                 if (isOnesTurn) {
-                    best = Math.max(best, best(afterTurn(oneLooks, way), otherLooks, timesMore - 1, false));
+                    ahead = Math.max(ahead, best(afterTurn(oneLooks, way), otherLooks, timesMore - 1, false));
                 } else {
-                    best = Math.min(best, best(oneLooks, afterTurn(otherLooks, way), timesMore - 1, true));
+                    ahead = Math.min(ahead, best(oneLooks, afterTurn(otherLooks, way), timesMore - 1, true));
                 }
             }
-            return best;
+            return ahead;
         }
 
         private static int afterTurn(int looks, int way) {
