@@ -14,6 +14,7 @@ public final class DeedTest {
         imageOfLater();
         undoAndRedo();
         fortyChanges();
+        fortyOfManyNumbers();
         deedsAreNoChanges();
         undoOfEachNumber();
         check.end();
@@ -203,6 +204,39 @@ public final class DeedTest {
         x.mend(0, 0, 77);
         check.due("undo()", x.undo(), 39);
         check.due("REGRET", x.of(0, 0), 45);
+    }
+
+    private static void fortyOfManyNumbers() {
+        GloveRegret x = Check.three();
+        for (int s = 0; s < 12; s++) {
+            x.slip(s % 3, 50, 20);
+        }
+        // four changes made the three; 39 come behind them, so that the first three of all are forgotten
+        for (int s = 0; s < 12; s++) {
+            x.mend(s, 6, 60 + s);
+            x.mend(s, 7, 1 + s);
+            x.mend(s % 3, 0, 40 + s);
+        }
+        for (int g = 0; g < 3; g++) {
+            x.mend(g, 4, 8);
+        }
+        check.due("count(3)", x.count(3), 40);
+        while (x.undo() >= 0) {
+            check.due("MINUTE is not touched", x.of(0, 8), 0);
+        }
+        for (int s = 0; s < 12; s++) {
+            check.due("AT undone", x.of(s, 6), 50);
+            check.due("WEIGHT undone", x.of(s, 7), 20);
+        }
+        check.dueAll("REGRET undone", new long[] {x.of(0, 0), x.of(1, 0), x.of(2, 0), x.of(2, 2)}, 20, 30, 0, 0);
+        while (x.redo() >= 0) {
+            check.due("MINUTE is not touched", x.of(0, 8), 0);
+        }
+        for (int s = 0; s < 12; s++) {
+            check.due("AT again", x.of(s, 6), 60 + s);
+            check.due("WEIGHT again", x.of(s, 7), 1 + s);
+        }
+        check.dueAll("REGRET again", new long[] {x.of(0, 0), x.of(1, 0), x.of(2, 0), x.of(2, 2)}, 49, 50, 51, 9);
     }
 
     private static void deedsAreNoChanges() {

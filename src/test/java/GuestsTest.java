@@ -135,7 +135,10 @@ public final class GuestsTest {
             check.due(of + "least", x.mend(0, what, least[what]), most[what]);
             check.due(of + "then", x.of(0, what), least[what]);
         }
+        int changes = x.count(3);
         check.due("mend -1", x.mend(0, -1, 0), GloveRegret.BAD);
+        check.due("nobody is mended", x.mend(1, 0, 3), GloveRegret.BAD);
+        check.due("what is refused is no change", x.count(3), changes);
         check.due("of -1", x.of(0, -1), GloveRegret.BAD);
     }
 

@@ -140,6 +140,19 @@ public final class LawTest {
         // 2^31 comes of wrapping; by -1 it stays, and the machine does not mind
         worth("1024*1024*2048/-1<0", 1);
         worth("1024*1024*2048%-1+8", 8);
+        longest();
+    }
+
+    /** 120 bytes, of which each one counts. */
+    private static void longest() {
+        StringBuilder text = new StringBuilder("-1");
+        while (text.length() < 120) {
+            text.append("+1");
+        }
+        worth(text.toString(), 58);
+        text.setLength(118);
+        worth(text + "*r", 96);
+        worth("!!!!!!" + text.substring(7) + "+9", 65);
     }
 
     private static void emptyAndStaying() {

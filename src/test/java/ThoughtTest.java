@@ -123,6 +123,7 @@ public final class ThoughtTest {
     }
 
     private static void goesAsAndWhen() {
+        check.due("goesWhen ahead of all other thoughts", Check.three().goesWhen(0, 0), 1);
         GloveRegret x = Check.three();
         int[] now = {1, 0, 2};
         int[] behind5 = {2, 0, 1};
