@@ -148,8 +148,8 @@ final class DeedEdges {
         z.image();
         String before = Check.seen(z);
         z.minute();
-        z.goes();
-        z.looks(0, 9);
+        e.due("goes()", z.goes(), 0);
+        e.due("looks(2, 1)", z.looks(2, 1), 9);
         e.due("back()", z.back(), 0);
         e.due("all is as it was", before.equals(Check.seen(z)) ? 1 : 0, 1);
     }
@@ -311,6 +311,27 @@ final class DeedEdges {
         e.due("undo()", x.undo(), 1);
         e.due("undo()", x.undo(), 0);
         e.due("REGRET", x.of(0, 0), 1);
+        fortyUnlikeOnes(e);
+    }
+
+    /** The oldest is dropped as a whole: whose number, which one, what it was and what it became. */
+    private static void fortyUnlikeOnes(Edges e) {
+        GloveRegret x = Check.three();
+        for (int i = 0; i < 43; i++) {
+            x.mend(i % 3, i % 2, 1 + (i + i / 6) % 9);
+        }
+        String behind = Check.seen(x);
+        e.due("40 of more", x.count(3), 40);
+        for (int i = 42; i >= 3; i--) {
+            e.due("told by change " + i, x.of(i % 3, i % 2), 1 + (i + i / 6) % 9);
+            e.due("undo()", x.undo(), i - 3);
+        }
+        e.dueAll("as the first three left it", new long[] {x.of(0, 0), x.of(1, 1), x.of(2, 0)}, 1, 2, 3);
+        for (int i = 3; i < 43; i++) {
+            e.due("redo()", x.redo(), 42 - i);
+            e.due("told by change " + i + " again", x.of(i % 3, i % 2), 1 + (i + i / 6) % 9);
+        }
+        e.due("all is as it was", behind.equals(Check.seen(x)) ? 1 : 0, 1);
     }
 
     private static void deedsAreNone(Edges e) {

@@ -113,6 +113,9 @@ final class DrawnEdges {
         e.dueEach("all are GONE: nobody is first", 0, x.drawn(1, 300112, 0), x.drawn(1, 300112, 1), x.drawn(1, 300112,
             2));
         e.due("all are GONE: REGRET stays", x.drawn(1, 300112, -1), 900);
+        GloveRegret nine = guests(0, 1, 2, 3, 4, 5, 6, 7, 8, 99);
+        e.due("REGRET of nine", nine.drawn(1, 306000, -1), 30 * 135);
+        e.due("the last of nine is first", nine.drawn(1, 306000, 8), 30);
         GloveRegret two = guests(0, 10, 10);
         e.due("the second of two", two.drawn(2, 10112, 1), 1);
         e.due("the first of two", two.drawn(1, 10112, 0), 1);

@@ -69,6 +69,11 @@ final class HookEdges {
         e.due("ENVOY 5 reads MIN", x.act(5, 1, MIN), -12);
         // GREY 7 reads MAX: 2 times (MAX + 7 + 3), and (2 ^ 7) - (2 + 7 + 3)
         e.due("GREY 7 reads MAX", x.act(7, 1, MAX), 18 + 5 - 12);
+        e.due("HOOK 8 tells MAX", x.act(8, 3, MAX), 14 - 9);
+        // regrets(1) is (1 ^ 5) * 3
+        e.due("ENVOY 5 tells MIN", x.act(5, 3, MIN), -24 ^ 5);
+        // regrets(1) is (1 ^ 7) - (2 + 7 + 3)
+        e.due("GREY 7 tells MAX", x.act(7, 3, MAX), 18 + 5 - 12 + 6 - 1);
     }
 
     private static void trace(Edges e) {

@@ -141,6 +141,8 @@ final class StairEdges {
         x.mend(1, 2, 9);
         e.dueAll("how he looks now does not matter", fits(x, 1, 0, 0, 1), 1, 0);
         e.dueAll("more than there are", fits(x, 1, 0, 9, 9, 9), 0, NOT);
+        x.mend(0, 1, 9);
+        e.dueAll("from now on, not from behind a MINUTE", fits(x, 1, 0, 0, 1), 1, 0);
     }
 
     private static void faded(Edges e) {
@@ -215,6 +217,10 @@ final class StairEdges {
         e.dueAll("none has more", new long[] {y.upside(0), y.upside(1)}, 0, 0);
         y.mend(0, 0, 21);
         e.dueAll("by one, 21 behind 22", new long[] {y.upside(0), y.upside(1)}, 1, 0);
+        y.mend(0, 0, 20);
+        y.mend(0, 2, 2);
+        e.dueAll("none has more, the least first", new long[] {y.upside(0), y.upside(1)}, 0, 0);
+        y.mend(0, 2, 0);
         y.mend(0, 0, 22);
         e.dueAll("alike, the more sorry first", new long[] {y.upside(0), y.upside(1)}, 0, 1);
         GloveRegret z = guests(20, 21);
@@ -291,14 +297,28 @@ final class StairEdges {
             e.due("the other way, n " + n, x.byTurns(10, n, 0), otherFirst[n - 1]);
         }
         e.dueAll("nobody looks otherwise then", new long[] {x.of(0, 2), x.of(1, 2)}, 0, 0);
+        // behind a MINUTE he has 15, and 4 more if he looks sorrier
+        x.mend(0, 0, 24);
+        x.mend(0, 1, 9);
+        e.due("from now on, not from behind a MINUTE", x.byTurns(1, 1, 0), 1);
         e.says(Edges.TERMS, "by how many the one is ahead (below 0: behind), if both do their best");
         GloveRegret nine = guests(0, 0, 0, 0, 0, 0, 0, 0, 0);
         Check.law(nine, "g=0?(l=2)*99;50");
         e.due("first and last of nine", nine.byTurns(8, 1, 0), 8);
         e.due("first and second of nine", nine.byTurns(1, 1, 0), 1);
+        e.due("the last but one and the last", nine.byTurns(78, 1, 0), 1);
         nine.mend(8, 2, 9);
         Check.law(nine, "g=8?(l=2)*99;50");
         e.due("last and first of nine", nine.byTurns(80, 5, 0), -8);
+        GloveRegret y = guests(0, 0);
+        y.mend(0, 2, 5);
+        y.mend(1, 2, 5);
+        Check.law(y, "g=0?50;(l=5)*60");
+        e.due("the other does his best as he does", y.byTurns(1, 2, 0), -1);
+        y.mend(1, 2, 4);
+        Check.law(y, "g=0?(l=5)*50;l*10");
+        e.due("the one as he does, the other has no turn", y.byTurns(1, 1, 0), 1);
+        e.due("the one as he does, the other has the last turn", y.byTurns(1, 2, 0), -1);
     }
 
     private static void turnsOfLikeOnes(Edges e) {
