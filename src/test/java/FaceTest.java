@@ -4,8 +4,12 @@ import java.lang.reflect.Method;
 import java.lang.reflect.Modifier;
 import java.nio.file.Files;
 import java.nio.file.Path;
+import java.util.ArrayList;
 import java.util.Arrays;
+import java.util.List;
+import java.util.Map;
 import java.util.Set;
+import java.util.TreeMap;
 import java.util.TreeSet;
 import java.util.regex.Matcher;
 import java.util.regex.Pattern;
@@ -22,6 +26,7 @@ public final class FaceTest {
         methods(document);
         othersArePrivate();
         language(source);
+        depth(source);
         check.end();
     }
 
@@ -71,6 +76,7 @@ public final class FaceTest {
         }
         Class<?>[] inside = GloveRegret.class.getDeclaredClasses();
         check.due("some twelve classes at most", inside.length <= 11 ? 1 : 0, 1);
+        check.due("the class has some twenty fields at most", objectFields(GloveRegret.class) <= 20 ? 1 : 0, 1);
         for (Class<?> one : inside) {
             check.due(one + " is static", Modifier.isStatic(one.getModifiers()) ? 1 : 0, 1);
             check.due(one + " is not public", Modifier.isPublic(one.getModifiers()) ? 1 : 0, 0);
@@ -103,5 +109,46 @@ public final class FaceTest {
                 check.due("a sign above 126 at " + i, 1, 0);
             }
         }
+    }
+
+    /** Methods by name; of like names in several classes the bodies are taken together, so no depth is missed. */
+    private static void depth(String source) {
+        Map<String, String> bodies = new TreeMap<>();
+        String method = "(?m)^( {4}| {8})(?! )[\\w\\[\\] ]*\\b(\\w+)\\([^;{]*\\) \\{\n((?s).*?)\n\\1}";
+        Matcher methods = Pattern.compile(method).matcher(source);
+        while (methods.find()) {
+            check.due(methods.group(2) + " is short", methods.group(3).split("\n").length <= 58 ? 1 : 0, 1);
+            bodies.merge(methods.group(2), methods.group(3), String::concat);
+        }
+        for (Method declared : GloveRegret.class.getDeclaredMethods()) {
+            check.due(declared + " is found", bodies.containsKey(declared.getName()) ? 1 : 0, 1);
+        }
+        for (Class<?> one : GloveRegret.class.getDeclaredClasses()) {
+            for (Method declared : one.getDeclaredMethods()) {
+                check.due(declared + " is found", bodies.containsKey(declared.getName()) ? 1 : 0, 1);
+            }
+        }
+        for (String name : bodies.keySet()) {
+            int deep = deepest(name, bodies, new ArrayList<>());
+            check.due(name + " goes " + deep + " deep, eight at most", deep <= 8 ? 1 : 0, 1);
+        }
+    }
+
+    /** A method that is open already is a recursion, which has a rule of its own. */
+    private static int deepest(String name, Map<String, String> bodies, List<String> open) {
+        open.add(name);
+        int deepest = 0;
+        Set<String> called = new TreeSet<>();
+        Matcher calls = Pattern.compile("(?<!new )\\b(\\w+)\\(").matcher(bodies.get(name));
+        while (calls.find()) {
+            called.add(calls.group(1));
+        }
+        for (String next : called) {
+            if (bodies.containsKey(next) && !open.contains(next)) {
+                deepest = Math.max(deepest, deepest(next, bodies, open));
+            }
+        }
+        open.remove(name);
+        return 1 + deepest;
     }
 }
